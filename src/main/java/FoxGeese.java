@@ -6,7 +6,8 @@ public final class FoxGeese {
     private static final int GOING = 0, CAUGHT = 1, HOME = 2;
     private static final int LEAST_SIDE = 3, MOST_SIDE = 5, MOST_CELLS = 25, MOST_GEESE = 4, KINDS = 6;
     private static final int MOST_MOVES = 9999, MOST_AHEAD = 4, MOST_UNDO = 8, UNDO_ROW = 7;
-    private static final int MOST_TOLD = 6, TOLD_ROW = 5, MOST_TOLD_MOVE = 99, LOOK_MOVES = 6, ASK_MOVES = 10;
+    private static final int MOST_TOLD = 6, TOLD_ROW = 5, MOST_TOLD_MOVE = 99;
+    private static final int LOOK_CODES = 2000, LOOK_MOVES = 6, ASK_CODES = 500;
     private static final int MOST_BYTES = 150, MOST_BYTE = 127, COUNTS = 13, IMAGES = 2, FARTHEST = 2;
     private static final int WORTH_HOME = 99, ABOVE_WORTH = 100, BELOW_WORTH = -1, MOST_STEPS_HOME = 50;
     private static final int MOST_SEED = 999999, MOST_EVENING = 60;
@@ -19,6 +20,7 @@ public final class FoxGeese {
     private final boolean[] imageKept = new boolean[IMAGES];
     private final Reader reader = new Reader();
     private final Board[] trials = new Board[MOST_AHEAD];
+    private final int[] bestMoves = new int[MOST_AHEAD + 1];
     private final int[] refused = new int[3];
     private long above = 0;
     private long below = 1;
@@ -165,14 +167,16 @@ public final class FoxGeese {
         if (!isWithin(n, 0, MOST_AHEAD)) {
             return refuse(BAD);
         }
-        return worthBehind(game.board, n, BELOW_WORTH, ABOVE_WORTH);
+        return worthBehind(trials, bestMoves, game.board, n, BELOW_WORTH, ABOVE_WORTH);
     }
 
     public int best(int n) {
         if (!isWithin(n, 1, MOST_AHEAD)) {
             return refuse(BAD);
         }
-        return game.board.outcome() == GOING ? bestMove(game.board, n) : NONE;
+        bestMoves[n] = NONE;
+        worthBehind(trials, bestMoves, game.board, n, BELOW_WORTH, ABOVE_WORTH);
+        return bestMoves[n];
     }
 
     public int few() {
@@ -192,7 +196,7 @@ public final class FoxGeese {
         if (!isWithin(n, 0, MOST_AHEAD)) {
             return refuse(BAD);
         }
-        keepFraction(homeShares(game.board, n), power(SHARES, n));
+        keepFraction(homeShares(trials, game.board, n), power(SHARES, n));
         return 1;
     }
 
@@ -227,23 +231,7 @@ public final class FoxGeese {
     }
 
     public int look() {
-        int fit = foxKinds();
-        int least = KINDS + 1;
-        int found = NONE;
-        for (int code = 0; fit != 0 && code < 2000; code++) {
-            int dx = code / 100 % 10 - FARTHEST;
-            int dy = code / 10 % 10 - FARTHEST;
-            int m = code % 10;
-            if (dx > FARTHEST || dy > FARTHEST || m >= LOOK_MOVES) {
-                continue;
-            }
-            int greater = greaterPart(fit, fit & Kinds.foxesThatMay(dx, dy, m, code / 1000));
-            if (greater < least) {
-                least = greater;
-                found = code;
-            }
-        }
-        return found;
+        return evenestStep(foxKinds(), true);
     }
 
     public int kinds(int i) {
@@ -251,26 +239,7 @@ public final class FoxGeese {
     }
 
     public int ask(int i) {
-        if (!game.board.isGoose(i)) {
-            return refuse(BAD);
-        }
-        int fit = gooseKinds(i);
-        int least = KINDS + 1;
-        int found = NONE;
-        for (int code = 0; fit != 0 && code < 500; code++) {
-            int dx = code / 100 - FARTHEST;
-            int dy = code / 10 % 10 - FARTHEST;
-            int m = code % 10;
-            if (dx > FARTHEST || dy > FARTHEST || m >= ASK_MOVES) {
-                continue;
-            }
-            int greater = greaterPart(fit, fit & Kinds.geeseThatMay(dx, dy, m));
-            if (greater < least) {
-                least = greater;
-                found = code;
-            }
-        }
-        return found;
+        return game.board.isGoose(i) ? evenestStep(gooseKinds(i), false) : refuse(BAD);
     }
 
     public int evenings(int seed, int n) {
@@ -396,75 +365,49 @@ public final class FoxGeese {
 
     /**
      * The worth behind n moves, exact if it lies between low and high; else only on which side it lies,
-     * because what the other would never allow need not be looked through.
+     * because what the other would never allow need not be looked through. The move is left in bestMoves[n]:
+     * only a better one takes its place, so that of like ones the least stays.
      */
-    private int worthBehind(Board board, int n, int low, int high) {
+    private static int worthBehind(Board[] trials, int[] bestMoves, Board board, int n, int low, int high) {
         int outcome = board.outcome();
         if (outcome != GOING) {
             return outcome == HOME ? WORTH_HOME : 0;
         }
-        if (n <= 0 || n > trials.length) {
+        if (n <= 0 || n > trials.length || n >= bestMoves.length) {
             return board.open();
         }
         Board trial = trials[n - 1];
-        if (board.mustPass()) {
+        boolean foxTurn = board.turn == FOX_TURN;
+        boolean moved = false;
+        for (int who = board.firstMover(); who <= board.lastMover(); who++) {
+            int cells = board.reach(who);
+            for (int c = 0; c < MOST_CELLS && low < high; c++) {
+                if ((cells >> c & 1) == 0) {
+                    continue;
+                }
+                moved = true;
+                trial.copyFrom(board);
+                trial.step(who, c);
+                int worth = worthBehind(trials, bestMoves, trial, n - 1, low, high);
+                if (foxTurn && worth > low) {
+                    low = worth;
+                    bestMoves[n] = 100 * who + c;
+                } else if (!foxTurn && worth < high) {
+                    high = worth;
+                    bestMoves[n] = 100 * who + c;
+                }
+            }
+        }
+        if (!moved) {
             trial.copyFrom(board);
             trial.endMove();
-            return worthBehind(trial, n - 1, low, high);
+            return worthBehind(trials, bestMoves, trial, n - 1, low, high);
         }
-        boolean foxTurn = board.turn == FOX_TURN;
-        int worth = foxTurn ? low : high;
-        for (int who = board.firstMover(); who <= board.lastMover(); who++) {
-            int cells = board.reach(who);
-            for (int c = 0; c < MOST_CELLS; c++) {
-                if ((cells >> c & 1) == 0) {
-                    continue;
-                }
-                trial.copyFrom(board);
-                trial.step(who, c);
-                if (foxTurn) {
-                    worth = Math.max(worth, worthBehind(trial, n - 1, worth, high));
-                } else {
-                    worth = Math.min(worth, worthBehind(trial, n - 1, low, worth));
-                }
-                if (foxTurn ? worth >= high : worth <= low) {
-                    return worth;
-                }
-            }
-        }
-        return worth;
-    }
-
-    /** 100 who and the cell; rising, and only a better one takes the place: so the least of like ones stays. */
-    private int bestMove(Board board, int n) {
-        if (n <= 0 || n > trials.length) {
-            return NONE;
-        }
-        Board trial = trials[n - 1];
-        boolean foxTurn = board.turn == FOX_TURN;
-        int worth = foxTurn ? BELOW_WORTH : ABOVE_WORTH;
-        int found = NONE;
-        for (int who = board.firstMover(); who <= board.lastMover(); who++) {
-            int cells = board.reach(who);
-            for (int c = 0; c < MOST_CELLS; c++) {
-                if ((cells >> c & 1) == 0) {
-                    continue;
-                }
-                trial.copyFrom(board);
-                trial.step(who, c);
-                int next = foxTurn ? worthBehind(trial, n - 1, worth, ABOVE_WORTH)
-                        : worthBehind(trial, n - 1, BELOW_WORTH, worth);
-                if (foxTurn ? next > worth : next < worth) {
-                    worth = next;
-                    found = 100 * who + c;
-                }
-            }
-        }
-        return found;
+        return foxTurn ? low : high;
     }
 
     /** The chance that she is home by n steps at random, as a number of shares of which SHARES to the n are all. */
-    private long homeShares(Board board, int n) {
+    private static long homeShares(Board[] trials, Board board, int n) {
         if (board.isHome()) {
             return power(SHARES, n);
         }
@@ -477,14 +420,14 @@ public final class FoxGeese {
         if (ways == 0) {
             trial.copyFrom(board);
             trial.endMove();
-            return SHARES * homeShares(trial, n - 1);
+            return SHARES * homeShares(trials, trial, n - 1);
         }
         long sum = 0;
         for (int c = 0; c < MOST_CELLS; c++) {
             if ((cells >> c & 1) != 0) {
                 trial.copyFrom(board);
                 trial.step(FOX, c);
-                sum += homeShares(trial, n - 1);
+                sum += homeShares(trials, trial, n - 1);
             }
         }
         return SHARES / ways * sum;
@@ -538,9 +481,26 @@ public final class FoxGeese {
         return fit;
     }
 
-    private static int greaterPart(int fit, int may) {
-        int those = Integer.bitCount(may);
-        return Math.max(those, Integer.bitCount(fit) - those);
+    /** The code of the step that parts these kinds most evenly, the least of like ones; NONE for no kinds. */
+    private static int evenestStep(int fit, boolean ofFox) {
+        int codes = fit == 0 ? 0 : ofFox ? LOOK_CODES : ASK_CODES;
+        int leastGreater = KINDS + 1;
+        int found = NONE;
+        for (int code = 0; code < codes; code++) {
+            int dx = code / 100 % 10 - FARTHEST;
+            int dy = code / 10 % 10 - FARTHEST;
+            int m = code % 10;
+            if (dx > FARTHEST || dy > FARTHEST || ofFox && m >= LOOK_MOVES) {
+                continue;
+            }
+            int may = ofFox ? Kinds.foxesThatMay(dx, dy, m, code / 1000) : Kinds.geeseThatMay(dx, dy, m);
+            int greater = Math.max(Integer.bitCount(fit & may), Integer.bitCount(fit & ~may));
+            if (greater < leastGreater) {
+                leastGreater = greater;
+                found = code;
+            }
+        }
+        return found;
     }
 
     /** Does the move that this number falls on among those that can be done, rising; else passes. */
@@ -569,14 +529,14 @@ public final class FoxGeese {
     /** Which steps each kind may do. */
     private static final class Kinds {
 
+        /** The square of a step's length tells its shape: 1 plain, 2 aslant, 4 two cells straight, 8 two aslant. */
         static boolean foxMay(int kind, int dx, int dy, int m, int over) {
-            int across = Math.abs(dx);
-            int along = Math.abs(dy);
+            int square = dx * dx + dy * dy;
             boolean even = m % 2 == 0;
-            boolean plain = across + along == 1;
-            boolean slant = across == 1 && along == 1;
-            boolean leap = over == 1 && (across == 2 && along == 0 || across == 0 && along == 2);
-            boolean slantLeap = over == 1 && across == 2 && along == 2;
+            boolean plain = square == 1;
+            boolean slant = square == 2;
+            boolean leap = over == 1 && square == 4;
+            boolean slantLeap = over == 1 && square == 8;
             switch (kind) {
                 case 0: return plain;
                 case 1: return plain || slant;
@@ -686,7 +646,7 @@ public final class FoxGeese {
         }
 
         boolean isGooseAlive(int i) {
-            return isGoose(i) && gooseCell[i] != NONE;
+            return i >= 0 && i < geese && i < MOST_GEESE && gooseCell[i] != NONE;
         }
 
         int kindOf(int who) {
@@ -731,7 +691,22 @@ public final class FoxGeese {
             if (who == FOX) {
                 return foxReach(foxCell, movesDone, true);
             }
-            return isGooseAlive(who) ? gooseReach(who) : 0;
+            if (width <= 0 || !isGooseAlive(who)) {
+                return 0;
+            }
+            int x = gooseCell[who] % width;
+            int y = gooseCell[who] / width;
+            int shut = thickets | gooseBits() | 1 << foxCell;
+            int cells = 0;
+            for (int toY = Math.max(0, y - 1); toY < height && toY <= y + 1; toY++) {
+                for (int toX = Math.max(0, x - 1); toX < width && toX <= x + 1; toX++) {
+                    int to = toY * width + toX;
+                    if ((shut >> to & 1) == 0 && Kinds.gooseMay(gooseKind[who], toX - x, toY - y, movesDone)) {
+                        cells |= 1 << to;
+                    }
+                }
+            }
+            return cells;
         }
 
         int open() {
@@ -757,25 +732,6 @@ public final class FoxGeese {
                     int half = halfWay(from, to);
                     int over = half == NONE ? 0 : flock >> half & 1;
                     if ((overGeese || over == 0) && Kinds.foxMay(foxKind, toX - x, toY - y, m, over)) {
-                        cells |= 1 << to;
-                    }
-                }
-            }
-            return cells;
-        }
-
-        int gooseReach(int i) {
-            if (width <= 0 || !isGooseAlive(i)) {
-                return 0;
-            }
-            int x = gooseCell[i] % width;
-            int y = gooseCell[i] / width;
-            int shut = thickets | gooseBits() | 1 << foxCell;
-            int cells = 0;
-            for (int toY = Math.max(0, y - 1); toY < height && toY <= y + 1; toY++) {
-                for (int toX = Math.max(0, x - 1); toX < width && toX <= x + 1; toX++) {
-                    int to = toY * width + toX;
-                    if ((shut >> to & 1) == 0 && Kinds.gooseMay(gooseKind[i], toX - x, toY - y, movesDone)) {
                         cells |= 1 << to;
                     }
                 }
@@ -812,7 +768,7 @@ public final class FoxGeese {
             if (isHome()) {
                 return HOME;
             }
-            return turn == FOX_TURN && reach(FOX) == 0 ? CAUGHT : GOING;
+            return turn == FOX_TURN && foxReach(foxCell, movesDone, true) == 0 ? CAUGHT : GOING;
         }
 
         /** How many steps can be done by those whose turn it is. */
@@ -824,12 +780,8 @@ public final class FoxGeese {
             return ways;
         }
 
-        boolean mustPass() {
-            return turn == GEESE_TURN && countMoves() == 0;
-        }
-
         boolean mayPass() {
-            return movesDone < MOST_MOVES && outcome() == GOING && mustPass();
+            return turn == GEESE_TURN && movesDone < MOST_MOVES && !isHome() && countMoves() == 0;
         }
 
         boolean mayMove(int who, int c) {
@@ -1015,20 +967,16 @@ public final class FoxGeese {
                 if (tokenSort == END && items > 0) {
                     return items;
                 }
-                if (!readItem(items == 0)) {
+                int item = itemNamed();
+                if ((item == FIELD_ITEM) != (items == 0) || !readParts(item)) {
+                    break;
+                }
+                nextToken();
+                if (tokenSort != STOP) {
                     break;
                 }
             }
             return FAULT_BASE - tokenStart;
-        }
-
-        boolean readItem(boolean first) {
-            int item = itemNamed();
-            if (item == NONE || (item == FIELD_ITEM) != first || !readParts(item)) {
-                return false;
-            }
-            nextToken();
-            return tokenSort == STOP;
         }
 
         boolean readParts(int item) {
@@ -1038,7 +986,7 @@ public final class FoxGeese {
                 case FOX_ITEM: return readFox();
                 case GOOSE_ITEM: return readGoose();
                 case GO_ITEM: return readStep(FOX);
-                case MOVE_ITEM: return readMove();
+                case MOVE_ITEM: return readStep(nextGoose());
                 case PASS_ITEM: return readPass();
                 default: return false;
             }
@@ -1095,18 +1043,22 @@ public final class FoxGeese {
             return true;
         }
 
-        boolean readMove() {
-            int i = nextNumber();
-            return told.board.isGooseAlive(i) && readStep(i);
-        }
-
+        /** A step by the fox, or by a goose; by NONE, if no goose was told rightly: the fault is at its number then. */
         boolean readStep(int who) {
+            if (who == NONE) {
+                return false;
+            }
             int c = nextNumber();
             if (!told.board.hasCell(c) || !told.board.mayMove(who, c)) {
                 return false;
             }
             told.board.step(who, c);
             return true;
+        }
+
+        int nextGoose() {
+            int i = nextNumber();
+            return told.board.isGooseAlive(i) ? i : NONE;
         }
 
         boolean readPass() {
