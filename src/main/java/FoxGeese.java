@@ -379,7 +379,8 @@ public final class FoxGeese {
         Board trial = trials[n - 1];
         boolean foxTurn = board.turn == FOX_TURN;
         boolean moved = false;
-        for (int who = board.firstMover(); who <= board.lastMover(); who++) {
+        int last = board.lastMover();
+        for (int who = board.firstMover(); who <= last && low < high; who++) {
             int cells = board.reach(who);
             for (int c = 0; c < MOST_CELLS && low < high; c++) {
                 if ((cells >> c & 1) == 0) {
@@ -511,7 +512,8 @@ public final class FoxGeese {
             return;
         }
         int left = (int) (number % ways);
-        for (int who = board.firstMover(); who <= board.lastMover(); who++) {
+        int last = board.lastMover();
+        for (int who = board.firstMover(); who <= last; who++) {
             int cells = board.reach(who);
             for (int c = 0; c < MOST_CELLS; c++) {
                 if ((cells >> c & 1) == 0) {
@@ -688,20 +690,21 @@ public final class FoxGeese {
 
         /** The cells to which one of them could step in the move to come, were it its turn. */
         int reach(int who) {
-            if (who == FOX) {
-                return foxReach(foxCell, movesDone, true);
-            }
-            if (width <= 0 || !isGooseAlive(who)) {
+            return who == FOX ? foxReach(foxCell, movesDone, true) : gooseReach(who);
+        }
+
+        int gooseReach(int i) {
+            if (width <= 0 || !isGooseAlive(i)) {
                 return 0;
             }
-            int x = gooseCell[who] % width;
-            int y = gooseCell[who] / width;
+            int x = gooseCell[i] % width;
+            int y = gooseCell[i] / width;
             int shut = thickets | gooseBits() | 1 << foxCell;
             int cells = 0;
             for (int toY = Math.max(0, y - 1); toY < height && toY <= y + 1; toY++) {
                 for (int toX = Math.max(0, x - 1); toX < width && toX <= x + 1; toX++) {
                     int to = toY * width + toX;
-                    if ((shut >> to & 1) == 0 && Kinds.gooseMay(gooseKind[who], toX - x, toY - y, movesDone)) {
+                    if ((shut >> to & 1) == 0 && Kinds.gooseMay(gooseKind[i], toX - x, toY - y, movesDone)) {
                         cells |= 1 << to;
                     }
                 }
@@ -774,14 +777,20 @@ public final class FoxGeese {
         /** How many steps can be done by those whose turn it is. */
         int countMoves() {
             int ways = 0;
-            for (int who = firstMover(); who <= lastMover(); who++) {
+            int last = lastMover();
+            for (int who = firstMover(); who <= last; who++) {
                 ways += Integer.bitCount(reach(who));
             }
             return ways;
         }
 
         boolean mayPass() {
-            return turn == GEESE_TURN && movesDone < MOST_MOVES && !isHome() && countMoves() == 0;
+            for (int i = 0; i < geese; i++) {
+                if (gooseReach(i) != 0) {
+                    return false;
+                }
+            }
+            return turn == GEESE_TURN && movesDone < MOST_MOVES && !isHome();
         }
 
         boolean mayMove(int who, int c) {
