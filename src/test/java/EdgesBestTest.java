@@ -160,6 +160,7 @@ public final class EdgesBestTest extends Edges {
         due("geese at the far side", told("field 3 3;fox 0 4;goose 5 6;goose 5 8;").worth(2), 99);
         due("no pass for who can step", told("field 3 3;fox 0 4;thicket 3;thicket 5;thicket 7;goose 5 6;goose 0 0;").worth(2), 0);
         due("caught behind a pass", told("field 3 3;thicket 5;thicket 7;").worth(1), 0);
+        due("all being eaten", told("field 5 5;fox 2 17;goose 5 7;move 0 12;go 7;").worth(2), 99);
     }
 
     @Holds(promise = {15}, words = "WORTH. BAD.")
@@ -197,6 +198,9 @@ public final class EdgesBestTest extends Edges {
         due("three ways home", told("field 3 3;fox 1 4;pass;").best(1), 400);
         due("two ways home", told("field 3 3;fox 1 4;thicket 0;pass;").best(1), 401);
         due("two who catch", told("field 3 3;thicket 7;goose 0 0;goose 0 4;goose 0 2;").best(1), 105);
+        // whatever she does a goose steps behind her, and she is caught; whatever they do she is home
+        due("she is lost by all", told("field 3 3;thicket 2;thicket 4;goose 0 6;move 0 7;").best(2), 405);
+        due("they have lost by all", told("field 3 3;fox 1 4;goose 0 0;").best(2), 1);
         due("two who catch, four ahead", told("field 3 3;thicket 7;goose 0 0;goose 0 4;goose 0 2;").best(4), 105);
     }
 
@@ -205,7 +209,8 @@ public final class EdgesBestTest extends Edges {
         for (int n = 1; n <= 4; n++) {
             int k = n;
             for (String done : new String[] {"field 3 3;fox 0 0;", "field 3 3;pass;fox 0 2;", "field 3 3;goose 0 3;fox 0 0;",
-                    CAUGHT, "field 3 3;", "field 3 3;goose 5 6;", "field 3 3;goose 5 7;goose 0 4;move 1 5;"}) {
+                    CAUGHT, "field 3 3;", "field 3 3;goose 5 6;", "field 3 3;goose 5 7;goose 0 4;move 1 5;",
+                    "field 5 5;fox 2 17;goose 5 7;move 0 12;go 7;"}) {
                 leaves(done + " best(" + n + ")", () -> told(done), x -> x.best(k), NONE);
             }
             Due.holds("one can step", told("field 3 3;goose 5 6;goose 5 0;").best(n) == 103);

@@ -54,8 +54,12 @@ public final class EdgesKeptTest extends Edges {
             long kept = x.digest();
             due("image", x.image(i), 1);
             x.goes(8);
-            x.note(1, 0, 0, 0, 1);
+            x.forget(0);
             x.forget(1);
+            for (int n = 0; n < 4; n++) {
+                x.note(-1, -2, 50 + n, n % 2, 0);
+                x.mark(2, -2, 1, 60 + n, 0);
+            }
             x.thicket(24);
             x.goose(0, 22);
             x.fox(5, 23);
@@ -98,6 +102,17 @@ public final class EdgesKeptTest extends Edges {
         due("no more", x.undo(), NO);
         x.from(0);
         due("the image still has them", x.undo(), 11);
+        for (int m = 11; m >= 4; m--) x.undo();
+        for (int m = 4; m < 12; m++) {
+            if (m % 2 == 0) x.passes();
+            else x.goes(m % 4 == 1 ? 19 : 18);
+        }
+        due("other moves were done since", x.undo(), 11);
+        x.from(0);
+        for (int m = 11; m >= 4; m--) {
+            due("undo", x.undo(), m);
+            due("her cell then", x.of(4, 1), afterMoves(m).of(4, 1));
+        }
         FoxGeese y = new FoxGeese();
         y.image(1);
         y.passes();
@@ -220,11 +235,11 @@ public final class EdgesKeptTest extends Edges {
         x.goose(0, 24);
         countsAs("undo", x, NO, FoxGeese::undo);
         countsAs("goose", x, FULL, f -> f.goose(0, 23));
-        while (x.count(12) < 150) x.type(32);
+        for (int n = x.count(12); n < 150; n++) x.type(32);
         countsAs("type", x, FULL, f -> f.type(32));
-        while (x.count(9) < 6) x.note(0, 1, 0, 0, 1);
+        for (int n = x.count(9); n < 6; n++) x.note(0, 1, 0, 0, 1);
         countsAs("note", x, FULL, f -> f.note(0, 1, 0, 0, 1));
-        while (x.count(10) < 6) x.mark(0, 0, 1, 0, 1);
+        for (int n = x.count(10); n < 6; n++) x.mark(0, 0, 1, 0, 1);
         countsAs("mark", x, FULL, f -> f.mark(0, 0, 1, 0, 1));
         statuses("all", x, 0, 8, 4);
     }

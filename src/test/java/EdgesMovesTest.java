@@ -261,6 +261,23 @@ public final class EdgesMovesTest extends Edges {
         return told;
     }
 
+    @Holds(promise = {12}, words = "UNDO: all of the FOX's CELL, GEESE's, who is EATEN, TURN, MOVES as ahead of the last MOVE")
+    static void undoTakesNothingElseBack() {
+        FoxGeese x = told("field 3 3;fox 1 4;goose 0 0;goose 0 1;");
+        x.moves(0, 3);
+        x.note(1, 1, 0, 0, 1);
+        x.mark(1, 0, 1, 4, 0);
+        x.luck(1);
+        x.type(32);
+        x.undo();
+        due("notes stay", x.is(), bits(1, 5));
+        due("marks stay", x.kinds(1), bits(4));
+        due("the fraction, 2 of 6, stays", x.part(1), 3);
+        due("the text stays", x.count(12), 39);
+        due("kinds stay", x.of(4, 0), 1);
+        due("geese stay", x.count(2), 2);
+    }
+
     @Holds(promise = {12}, words = "(8 at most;")
     static void undoEightAtMost() {
         for (int m = 0; m <= 12; m++) {

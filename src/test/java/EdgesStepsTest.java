@@ -354,11 +354,10 @@ public final class EdgesStepsTest extends Edges {
         due("of four", x.count(2), 4);
         due("then they can but pass", x.passes(), 9);
         x.undo();
-        while (eaten > 0) {
-            x.undo();
-            eaten--;
-            due("undone, so many are eaten", x.count(3), eaten);
-            if (eaten > 0) x.undo();
+        for (int left = 3; left > 0; left--) {
+            due("her leap is undone", x.undo(), 2 * left + 1);
+            due("so many are eaten", x.count(3), left);
+            due("their pass is undone", x.undo(), 2 * left);
         }
     }
 

@@ -16,13 +16,13 @@ public final class EdgesWhoTest extends Edges {
 
     private static FoxGeese sixNotes() {
         FoxGeese x = rich();
-        while (x.count(9) < 6) x.note(0, 1, x.count(9), 0, 1);
+        for (int n = x.count(9); n < 6; n++) x.note(0, 1, n, 0, 1);
         return x;
     }
 
     private static FoxGeese sixMarks() {
         FoxGeese x = rich();
-        while (x.count(10) < 6) x.mark(2, 0, 1, x.count(10), 1);
+        for (int n = x.count(10); n < 6; n++) x.mark(2, 0, 1, n, 1);
         return x;
     }
 
