@@ -365,6 +365,7 @@ public final class EdgesTextTest extends Edges {
             boolean begins = c == 32 || c == ';' || c >= '0' && c <= '9' || c >= 'a' && c <= 'z';
             if (begins) continue;
             fault("" + (char) c, 0);
+            fault("field" + (char) c + " 3 3;", 5);
             fault(" " + (char) c + SMALL, 1);
             fault("field 3 3" + (char) c, 9);
             fault("field 3" + (char) c + "3;", 7);

@@ -1,41 +1,5 @@
 /** For each promise of the document what it says in plain cases, at the edges, and with wrong numbers. */
-public final class PromisesTest {
-    private static final int NONE = -1, BAD = -2, NO = -3, FULL = -4;
-
-    private static void due(String what, long got, long want) { Due.due(what, got, want); }
-
-    private static int bits(int... cells) {
-        int b = 0;
-        for (int c : cells) b |= 1 << c;
-        return b;
-    }
-
-    private static void typeAll(FoxGeese x, String text) {
-        x.clear();
-        for (char c : text.toCharArray()) x.type(c);
-    }
-
-    private static int readOf(FoxGeese x, String text) {
-        typeAll(x, text);
-        return x.read();
-    }
-
-    private static FoxGeese told(String text) {
-        FoxGeese x = new FoxGeese();
-        int items = readOf(x, text);
-        if (items < 0) due("told '" + text + "'", items, 0);
-        return x;
-    }
-
-    private static void counts(String what, FoxGeese x, long... wants) {
-        for (int k = 0; k < wants.length; k++) due(what + " count(" + k + ")", x.count(k), wants[k]);
-    }
-
-    private static void statuses(String what, FoxGeese x, int bad, int no, int full) {
-        due(what + " status(0)", x.status(0), bad);
-        due(what + " status(1)", x.status(1), no);
-        due(what + " status(2)", x.status(2), full);
-    }
+public final class PromisesTest extends Edges {
 
     private static void p1NewObject() {
         FoxGeese x = new FoxGeese();
