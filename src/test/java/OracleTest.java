@@ -75,9 +75,18 @@ public final class OracleTest {
             }
             return;
         }
+        List<Integer> leaps = leaps();
+        if (!leaps.isEmpty() && random.nextBoolean()) options = leaps;
         int option = options.get(random.nextInt(options.size())), who = option / 100, c = option % 100;
         if (who == 4) same("goes(" + c + ")", real.goes(c), oracle.goes(c));
         else same("moves(" + who + ", " + c + ")", real.moves(who, c), oracle.moves(who, c));
+    }
+
+    /** Her moves by which a goose is eaten: at random they would come too seldom. */
+    private List<Integer> leaps() {
+        List<Integer> out = new ArrayList<>();
+        if (oracle.now.turn == 1) oracle.now.steps(4).forEach((c, prey) -> { if (prey >= 0) out.add(400 + c); });
+        return out;
     }
 
     private void typeAll(String text) {

@@ -7,10 +7,8 @@ import java.nio.file.Path;
 import java.util.ArrayList;
 import java.util.List;
 import java.util.TreeSet;
-import java.util.regex.Matcher;
-import java.util.regex.Pattern;
 
-/** What of ../shared/LANGUAGE.md can be seen in the class and in its source (the path of which is the argument). */
+/** The face, and what else of ../shared/LANGUAGE.md the class itself tells; LanguageTest reads its source. */
 public final class SourceTest {
     private static final String[] FACE = {"field(int,int)int", "thicket(int)int", "fox(int,int)int", "goose(int,int)int",
         "type(int)int", "clear()int", "read()int", "goes(int)int", "moves(int,int)int", "passes()int", "undo()int",
@@ -68,37 +66,15 @@ public final class SourceTest {
         }
     }
 
-    private static void words(String source) {
-        String code = source.replaceAll("(?s)/\\*.*?\\*/", "").replaceAll("//[^\n]*", "").replaceAll("\"[^\"\n]*\"", "\"\"");
-        for (String word : new String[] {"throw", "throws", "try", "catch", "synchronized", "assert", "import", "package",
-                "float", "double", "Object", "Thread", "Random"}) {
-            Due.holds("no " + word, !Pattern.compile("\\b" + word + "\\b").matcher(code).find());
-        }
-        for (String sign : new String[] {"->", "::", "Exact(", "static {"}) Due.holds("no " + sign, !code.contains(sign));
-        Matcher m = Pattern.compile("\\b(Math|System|Integer|Long|Arrays)\\.(\\w+)").matcher(code);
-        List<String> allowed = List.of("Math.max", "Math.min", "Math.abs", "System.arraycopy", "Integer.bitCount");
-        while (m.find()) Due.holds(m.group() + " stands in the list", allowed.contains(m.group()));
+    private static void plainSigns(String source) {
         for (char c : source.toCharArray()) if (c > 126) Due.holds("a sign above 126", false);
-    }
-
-    private static void methodsAreShort(String source) {
-        String[] lines = source.split("\n");
-        int start = -1;
-        for (int k = 0; k < lines.length; k++) {
-            if (lines[k].matches("( {4}| {8})\\w[^=;]*\\) \\{")) start = k;
-            if (start >= 0 && lines[k].matches(lines[start].replaceAll("\\S.*", "") + "\\}")) {
-                Due.holds(lines[start].trim() + " is short", k - start < 60);
-                start = -1;
-            }
-        }
     }
 
     public static void main(String[] args) throws Exception {
         String source = Files.readString(Path.of(args[0]));
         face();
         classesInside();
-        words(source);
-        methodsAreShort(source);
+        plainSigns(source);
         Due.end();
     }
 }
